@@ -360,7 +360,6 @@ public final class StoneReaders {
     }
 
     public int often() {
-        emptyRow();
         for (int letter = 0; letter < told.letters; letter++) {
             row[letter] = now.signsLike(letter);
         }
@@ -1587,7 +1586,8 @@ public final class StoneReaders {
         private final int[] flow;
         private int sounding;
         private int lastRead;
-        /** The MOUTHS that RAN OVER in the last MINUTE, as bits. */
+        // Asked right behind a MINUTE alone, so nobody keeps or copies these two.
+        /** The MOUTHS that RAN OVER in it, as bits. */
         private int overs;
         private int spilled;
         private final int[] slate;
@@ -1609,8 +1609,6 @@ public final class StoneReaders {
             }
             sounding = 0;
             lastRead = NONE;
-            overs = 0;
-            spilled = 0;
             slateSize = 0;
         }
 
@@ -1621,8 +1619,6 @@ public final class StoneReaders {
             System.arraycopy(other.flow, 0, flow, 0, MOST_MOUTHS);
             sounding = other.sounding;
             lastRead = other.lastRead;
-            overs = other.overs;
-            spilled = other.spilled;
             System.arraycopy(other.slate, 0, slate, 0, MOST_ON_SLATE);
             slateSize = other.slateSize;
         }

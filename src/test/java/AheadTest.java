@@ -38,6 +38,11 @@ public final class AheadTest {
         Due.day(x, "stop lo;stop hi;stop md;minute;");
         Due.due("judged(1), none", x.judged(1), -1);
         Due.due("judged(2), none", x.judged(2), 0);
+        StoneReaders dry = Due.told("mouth a plain high 1 takes 0 holds 9;mouth b plain high 1 takes 0 holds 9;letter l of b;");
+        Due.day(dry, "minute;pour b 4;minute;minute;pour a 1;minute;");
+        Due.due("judged(0) of POURS", dry.judged(0), -1);
+        Due.due("judged(1) of POURS", dry.judged(1), 2);
+        Due.due("judged(2) of POURS", dry.judged(2), 1);
     }
 
     private static void judgesFromTheBeginning() {
@@ -105,6 +110,13 @@ public final class AheadTest {
         Due.due("when(0), then", slow.when(0), 2);
         slow.pour(2, 1);
         Due.due("dry() never", slow.dry(), -1);
+        StoneReaders long60 = Due.told("mouth a slow high 1 takes 1 holds 40;rain 1 0;");
+        // One less behind each two MINUTES.
+        long60.pour(0, 20);
+        long60.pour(0, 10);
+        Due.due("dry() of 60", long60.dry(), 60);
+        long60.pour(0, 1);
+        Due.due("dry() not by 60", long60.dry(), -1);
         StoneReaders last = Due.told("mouth a nest high 2 takes 1 holds 40;mouth b slow high 1 takes 1 holds 40;"
                 + "gutter a b;letter l of b;letter m of a;sounds 59<stands+wet+tall*tall*0+flow*0;rain 1 1 1 1 1 1 1 1;");
         // Nobody can have 60 in it.
@@ -139,6 +151,18 @@ public final class AheadTest {
         Due.due("over(-1)", x.over(-1), -1);
         Due.minutes(x, 2);
         Due.due("over(0) now", x.over(0), 1);
+        StoneReaders at = Due.told("mouth a nest high 3 takes 9 holds 1;mouth b nest high 2 takes 0 holds 2;"
+                + "mouth c nest high 1 takes 1 holds 0;gutter a b;rain 1 0 0 1;");
+        Due.due("over(0) at once", at.over(0), 1);
+        Due.due("over(1) at once", at.over(1), 1);
+        Due.due("over(2) at once", at.over(2), 1);
+        Due.due("spill(1)", at.spill(1), 6 + 1);
+        Due.minutes(at, 1);
+        Due.due("over(0) again", at.over(0), 3);
+        Due.due("over(1) again", at.over(1), 3);
+        Due.due("first() again", at.first(), 0);
+        Due.due("spill(2) of nothing", at.spill(2), 0);
+        Due.due("spill(3)", at.spill(3), 9 + 1);
         StoneReaders late = Due.told("mouth a nest high 1 takes 1 holds 40;rain 2 0 0;");
         // 40 behind 58, 42 in the 61st.
         Due.due("over(0) not by 60", late.over(0), -1);
@@ -184,6 +208,24 @@ public final class AheadTest {
         Due.due("twins(4)", z.twins(4), 0);
         z.minute();
         Due.due("twins(1) of a and b", z.twins(1), 1);
+        // By 1 2 2 1 2 1 0 that they spout there are 3 pairs of 1, 3 of 2.
+        StringBuilder seven = new StringBuilder();
+        for (int i = 0; i < 7; i++) {
+            seven.append("mouth ").append((char) ('a' + i)).append(" wide high 1 takes 0 holds 9;");
+        }
+        StoneReaders w = Due.told(seven.toString());
+        Due.due("twins(1) of seven alike", w.twins(1), 21);
+        int[] water = {1, 2, 2, 1, 2, 1};
+        for (int i = 0; i < 6; i++) {
+            w.pour(i, water[i]);
+        }
+        Due.due("twins(1) of seven", w.twins(1), 6);
+        Due.due("twins(60) of seven", w.twins(60), 6);
+        w.pour(6, 1);
+        Due.due("twins(1) of four and three", w.twins(1), 9);
+        w.pour(0, 3);
+        Due.due("twins(1) without the first", w.twins(1), 6);
+        Due.due("great(1) of one MOUTH", Due.told("mouth a plain high 1 takes 0 holds 1;").great(1), 0);
     }
 
     private static void ways() {
@@ -211,6 +253,10 @@ public final class AheadTest {
         Due.due("chain() of seven", y.chain(), 7);
         Due.due("down(6)", y.down(6), 63);
         Due.due("up(0)", y.up(0), 126);
+        StoneReaders two = Due.told("mouth a plain high 2 takes 0 holds 1;mouth b plain high 1 takes 0 holds 1;gutter a b;");
+        Due.due("up(1) of two", two.up(1), 1);
+        Due.due("down(0) of two", two.down(0), 2);
+        Due.due("chain() of two", two.chain(), 2);
         Due.due("chain() of none", Due.told("").chain(), 0);
     }
 

@@ -94,6 +94,12 @@ public final class AskTest {
         Due.due("hush(0) without d", w.hush(0), 8);
         Due.due("hush(1) without c", w.hush(1), 4);
         Due.due("hush(2)", w.hush(2), 0);
+        StringBuilder nests = new StringBuilder("letter l of");
+        for (char m = 'g'; m >= 'a'; m--) {
+            nests.insert(0, "mouth " + m + " nest high 1 takes 1 holds 1;");
+            nests.append(' ').append(m);
+        }
+        Due.due("hush(0) of all seven", Due.told(nests + ";rain 1;").hush(0), 127);
         StoneReaders none = Due.told("mouth a plain high 1 takes 0 holds 9;letter l of a;");
         Due.due("hush(0) of the dry", none.hush(0), -1);
     }
@@ -182,6 +188,11 @@ public final class AskTest {
         Due.due("chance(0, 6, 1)", z.chance(0, 6, 1), 5 * 59049);
         z.pour(1, 9);
         Due.due("chance(0, 6, 1) of none wet", z.chance(0, 6, 1), 531441);
+        Due.due("chance(0, 6, 9) of none wet", z.chance(0, 6, 9), 1);
+        // Told rain counts for nothing here; the rain of the odd minutes does.
+        StoneReaders w = Due.told("mouth a nest high 1 takes 1 holds 40;letter l of a;sounds stands=36;rain 1;");
+        Due.due("chance(0, 4, 3)", w.chance(0, 4, 3), 8100);
+        Due.due("chance(0, 5, 3)", w.chance(0, 5, 3), 5 * 81 * 7 * 10);
     }
 
     private static void rest(int lose, int pulls, int holds, int... want) {
@@ -245,6 +256,13 @@ public final class AskTest {
         StoneReaders full = Due.told("rain 1;mouth a slow high 1 takes 1 holds 1;mouth b slow high 1 takes 1 holds 1;sounds 1;letter l of a b;");
         Due.minutes(full, 40);
         Due.due("days(3, 99, 0) with a full slate", full.days(3, 99, 0), 99);
+        // A single MOUTH is drawn too: by 1 the second number drawn below 5 is 3, then 0 (2), 0 (4), 1.
+        StoneReaders one = Due.told("mouth a plain high 1 takes 0 holds 40;letter l of a;");
+        Due.due("days(1, 1, 0) of one", one.days(1, 1, 0), 0);
+        Due.due("days(1, 3, 0) of one", one.days(1, 3, 0), 2);
+        Due.due("days(1, 3, 2) of one", one.days(1, 3, 2), 1);
+        Due.due("days(1, 4, 0) of one, STOPPED", one.days(1, 4, 0), 2);
+        Due.due("days(1, 4, 2) of one, STOPPED", one.days(1, 4, 2), 1);
         Due.due("days(-1, 1, 0)", x.days(-1, 1, 0), -1);
         Due.due("days(10000, 1, 0)", x.days(10000, 1, 0), -1);
         Due.due("days(9999, 1, 0)", x.days(9999, 1, 0), 0);

@@ -18,6 +18,9 @@ public final class HandTest {
         stopsAndClears();
         undoes();
         marks();
+        marksHoldEachPart();
+        marksHoldSights();
+        undoGivesTheSlateBack();
         Due.end();
     }
 
@@ -334,5 +337,73 @@ public final class HandTest {
         Due.minutes(x, 2);
         x.mark(3, true);
         Due.due("a MARK laid anew", x.count(2), 2);
+    }
+
+    /** All that was on a MARK is told otherwise in between, place by place. */
+    private static void marksHoldEachPart() {
+        StoneReaders x = Due.told("mouth a plain high 2 takes 0 holds 9;mouth b plain high 1 takes 0 holds 9;"
+                + "letter p of a;letter q of b;");
+        Due.day(x, "pour b 1;minute;stop a;stop a;");
+        Due.word(x, "p q");
+        x.see(1, false);
+        x.pour(0, 1);
+        x.minute();
+        x.pour(1, 1);
+        x.minute();
+        x.mark(1, false);
+        Due.day(x, "pour a 9;minute;stop b;minute;minute;");
+        Due.word(x, "q p");
+        for (int i = 0; i < 2; i++) {
+            x.undo();
+            x.undo();
+        }
+        x.pour(1, 4);
+        Due.minutes(x, 3);
+        x.mark(2, false);
+        Due.due("slate in between", x.slate(0), 1);
+        Due.due("mark(1, true)", x.mark(1, true), true);
+        Due.due("slate(0) is back", x.slate(0), 0);
+        Due.due("slate(1) is back", x.slate(1), 1);
+        Due.due("count(6) is back", x.count(6), 2);
+        Due.due("stands() is back", x.stands(), 0);
+        Due.due("judged(0) is back", x.judged(0), 3);
+        Due.due("judged(1) is back", x.judged(1), 1);
+        Due.due("rains() is back", x.rains(), 1023);
+        Due.frontFault(x, 1, "^oops");
+        Due.due("mark(2, true)", x.mark(2, true), true);
+        Due.due("slate(0) of the other MARK", x.slate(0), 1);
+        Due.due("stands() of the other MARK", x.stands(), -1);
+        Due.due("judged(0) of the other MARK", x.judged(0), -1);
+        Due.due("judged(1) of the other MARK", x.judged(1), 1);
+    }
+
+    private static void marksHoldSights() {
+        StoneReaders x = Due.told("mouth a plain high 2 takes 1 holds 40;mouth b plain high 1 takes 2 holds 40;"
+                + "sounds 3<stands+flow;");
+        // a sounds by a rain of 4 and more, b by one of 2 and more.
+        x.mark(0, false);
+        x.see(0, false);
+        x.see(1, true);
+        x.mark(1, false);
+        x.mark(0, true);
+        Due.due("count(10) ahead of them", x.count(10), 0);
+        x.see(1, false);
+        x.see(0, false);
+        Due.due("rains() by others", x.rains(), 3);
+        x.mark(1, true);
+        Due.due("rains() is back", x.rains(), 12);
+    }
+
+    private static void undoGivesTheSlateBack() {
+        StoneReaders x = Due.told("mouth a plain high 2 takes 0 holds 9;mouth b plain high 1 takes 0 holds 9;"
+                + "letter p of a;letter q of b;");
+        x.pour(0, 1);
+        x.minute();
+        x.undo();
+        x.undo();
+        x.pour(1, 1);
+        Due.due("minute()", x.minute(), 1);
+        Due.due("slate(0)", x.slate(0), 1);
+        Due.due("count(11)", x.count(11), 2);
     }
 }

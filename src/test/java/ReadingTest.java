@@ -71,6 +71,10 @@ public final class ReadingTest {
         Due.frontFault(x, 0, " \n  \n");
         Due.frontFault(x, 0, "\nmouth\n\nabcdefgh\nplain high0020takes 9holds 40 ;");
         Due.due("high 0020", x.mouth(0, 1), 20);
+        Due.frontFault(x, 0, "mouth zazzy plain high 1 takes 1 holds 1;mouth az plain high 1 takes 1 holds 1;letter z of az;");
+        Due.due("letter(0) of az", x.letter(0), 2);
+        Due.frontFault(x, 3, A + "letter aa of a;mouth b plain high 1 takes 1 holds 1;letter ^aa of b;");
+        Due.frontFault(x, 0, A + "mouth aa plain high 1 takes 1 holds 1;mouth aaaaaaaa plain high 1 takes 1 holds 1;");
         Due.frontFault(x, 1, "^mouthmouth a plain high 1 takes 1 holds 1;");
         Due.frontFault(x, 1, "mouth ^abcdefghi plain high 1 takes 1 holds 1;");
         Due.frontFault(x, 1, "mouth a plain high ^00001 takes 1 holds 1;");
@@ -211,6 +215,7 @@ public final class ReadingTest {
         Due.frontFault(x, 1, "rain 1^");
         Due.frontFault(x, 4, "rain 1 ^10;");
         Due.frontFault(x, 5, "rain 1 2 3 4 5 6 7 8 9 1 2 3 ^4;");
+        Due.frontFault(x, 5, "rain 1 2 3 4 5 6 7 8 9 1 2 3 ^9;");
         Due.frontFault(x, 4, "rain 1 2 3 4 5 6 7 8 9 1 2 3 ^10;");
         Due.frontFault(x, 1, "rain 1 2 3 4 5 6 7 8 9 1 2 3 ^a;");
         Due.frontFault(x, 1, "rain 1 2 3 4 5 6 7 8 9 1 2 3 ^00004;");
@@ -287,12 +292,16 @@ public final class ReadingTest {
         x.clear(2);
         x.see(0, true);
         x.mark(1, false);
+        x.mark(0, false);
+        x.mark(3, false);
         Due.frontFault(x, 0, AB + "mouth c nest high 1 takes 1 holds 5;letter l of a;rain 3;");
         int[] want = {3, 1, 0, 3, 0, 4, 0, 0, 0, 0, 0, 0, 0};
         for (int what = 0; what <= 12; what++) {
             Due.due("new FRONT: count(" + what + ")", x.count(what), want[what]);
         }
         Due.due("new FRONT: mark(1, true)", x.mark(1, true), false);
+        Due.due("new FRONT: mark(0, true)", x.mark(0, true), false);
+        Due.due("new FRONT: mark(3, true)", x.mark(3, true), false);
         Due.due("new FRONT: undo()", x.undo(), false);
         Due.due("new FRONT: sounds()", x.sounds(), 0);
         Due.due("new FRONT: last()", x.last(), -1);
