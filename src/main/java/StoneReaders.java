@@ -42,7 +42,7 @@ public final class StoneReaders {
     private int pastNext;
     private int pastCount;
     private final Mark[] marks;
-    /** Sums by MOUTH, by LETTER or by rain, whatever the call needs. */
+    /** Sums by MOUTH, or by LETTER, of which there are fewer. */
     private final int[] row;
     private long drawn;
 
@@ -67,7 +67,7 @@ public final class StoneReaders {
         for (int i = 0; i < MOST_MARKS; i++) {
             marks[i] = new Mark();
         }
-        row = new int[RAIN_KINDS];
+        row = new int[MOST_MOUTHS];
     }
 
     public int feed(long a, long b, long c) {
@@ -716,7 +716,7 @@ public final class StoneReaders {
     }
 
     private void emptyRow() {
-        for (int i = 0; i < RAIN_KINDS; i++) {
+        for (int i = 0; i < MOST_MOUTHS; i++) {
             row[i] = 0;
         }
     }
@@ -729,7 +729,7 @@ public final class StoneReaders {
 
     private int greatestOfRow(int length) {
         int best = NONE;
-        for (int i = 0; i < length && i < RAIN_KINDS; i++) {
+        for (int i = 0; i < length && i < MOST_MOUTHS; i++) {
             if (best == NONE || row[i] > row[best]) {
                 best = i;
             }

@@ -19,6 +19,7 @@ public final class HandTest {
         undoes();
         marks();
         marksHoldEachPart();
+        marksHoldPouredWater();
         marksHoldSights();
         undoGivesTheSlateBack();
         Due.end();
@@ -375,6 +376,16 @@ public final class HandTest {
         Due.due("stands() of the other MARK", x.stands(), -1);
         Due.due("judged(0) of the other MARK", x.judged(0), -1);
         Due.due("judged(1) of the other MARK", x.judged(1), 1);
+    }
+
+    private static void marksHoldPouredWater() {
+        StoneReaders x = Due.told("mouth a plain high 2 takes 0 holds 9;mouth b plain high 1 takes 0 holds 9;");
+        Due.day(x, "pour a 3;minute;minute;minute;");
+        x.mark(0, false);
+        Due.day(x, "pour a 9;minute;minute;minute;");
+        Due.due("judged(2) of 9", x.judged(2), 3);
+        x.mark(0, true);
+        Due.due("judged(2) of 3", x.judged(2), 1);
     }
 
     private static void marksHoldSights() {
