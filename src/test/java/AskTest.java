@@ -161,6 +161,29 @@ public final class AskTest {
         StoneReaders one = Due.told("mouth a plain high 2 takes 1 holds 40;mouth b plain high 2 takes 0 holds 40;");
         Due.due("look() of one against nine", one.look(), 0);
         Due.due("look() without MOUTHS", new StoneReaders().look(), -1);
+        // 6 and 4 by the first, 5 and 5 by the second, of just ten rains.
+        StoneReaders ten = Due.told("mouth a plain high 3 takes 1 holds 40;mouth b plain high 2 takes 1 holds 40;"
+                + "sounds (tall=3 and wet<6) or (tall=2 and wet<5);");
+        Due.due("look() of ten rains", ten.look(), 1);
+        sevenMouths();
+    }
+
+    private static void sevenMouths() {
+        StringBuilder seven = new StringBuilder();
+        for (char m = 'a'; m <= 'g'; m++) {
+            seven.append("mouth ").append(m).append(" plain high 1 takes ").append(m == 'g' ? 1 : 0).append(" holds 9;");
+        }
+        StoneReaders x = Due.told(seven + "letter l of g;letter m of a b;rain 0;");
+        aim(x, 0, 1, 6);
+        aim(x, 1, -2, -2);
+        Due.due("look() at the seventh", x.look(), 6);
+        Due.due("first() of seven", x.first(), -1);
+        x.pour(6, 5);
+        Due.due("great(1) of seven", x.great(1), 6);
+        Due.due("great(60) of seven", x.great(60), 6);
+        Due.due("first() of seven", x.first(), -1);
+        Due.due("hush(0) of seven", x.hush(0), 0);
+        Due.due("days(1, 1, 2) of seven", x.days(1, 1, 2) >= 2, true);
     }
 
     private static void chances() {

@@ -75,6 +75,9 @@ public final class ReadingTest {
         Due.due("letter(0) of az", x.letter(0), 2);
         Due.frontFault(x, 3, A + "letter aa of a;mouth b plain high 1 takes 1 holds 1;letter ^aa of b;");
         Due.frontFault(x, 0, A + "mouth aa plain high 1 takes 1 holds 1;mouth aaaaaaaa plain high 1 takes 1 holds 1;");
+        Due.frontFault(x, 0, B + "mouth bb plain high 1 takes 1 holds 1;mouth bbb plain high 1 takes 1 holds 1;");
+        Due.frontFault(x, 0, B + "mouth cb plain high 1 takes 1 holds 1;letter bc of b;letter zz of cb;");
+        Due.due("letter(1) of cb", x.letter(1), 2);
         Due.frontFault(x, 1, "^mouthmouth a plain high 1 takes 1 holds 1;");
         Due.frontFault(x, 1, "mouth ^abcdefghi plain high 1 takes 1 holds 1;");
         Due.frontFault(x, 1, "mouth a plain high ^00001 takes 1 holds 1;");
@@ -90,6 +93,17 @@ public final class ReadingTest {
         Due.frontFault(x, 1, "^~");
         Due.frontFault(x, 1, "rain 1;^;");
         Due.frontFault(x, 0, "rain 1;  \n");
+        // What an earlier, longer text left behind the end counts for nothing.
+        Due.frontFault(x, 4, "rain ^1999;");
+        Due.frontFault(x, 1, "rain 1^");
+        Due.wordFault(x, 2, "^longer");
+        Due.wordFault(x, 2, "^lon");
+        StringBuilder full = new StringBuilder();
+        while (full.length() < 994) {
+            full.append(' ');
+        }
+        Due.frontFault(x, 1, full + "rain 7^");
+        Due.frontFault(x, 1, full + "^rained");
         Due.frontFault(x, 1, "rain 1  \n^");
     }
 
