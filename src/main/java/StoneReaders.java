@@ -863,25 +863,12 @@ public final class StoneReaders {
         }
 
         boolean isName() {
-            return type == WORD && !isFrontWord() && !isDayWord() && !isKind() && !isLawWord();
-        }
-
-        private boolean isFrontWord() {
-            return isWord("mouth") || isWord("high") || isWord("takes") || isWord("holds")
-                    || isWord("gutter") || isWord("letter") || isWord("of") || isWord("rain")
-                    || isWord("sounds");
-        }
-
-        private boolean isDayWord() {
-            return isWord("minute") || isWord("pour") || isWord("stop") || isWord("clear");
-        }
-
-        private boolean isKind() {
-            return isWord("plain") || isWord("wide") || isWord("slow") || isWord("nest");
-        }
-
-        private boolean isLawWord() {
-            return isWord("not") || isWord("and") || isWord("or");
+            return type == WORD && !(isWord("mouth") || isWord("high") || isWord("takes")
+                    || isWord("holds") || isWord("gutter") || isWord("letter") || isWord("of")
+                    || isWord("rain") || isWord("sounds") || isWord("minute") || isWord("pour")
+                    || isWord("stop") || isWord("clear") || isWord("plain") || isWord("wide")
+                    || isWord("slow") || isWord("nest") || isWord("not") || isWord("and")
+                    || isWord("or"));
         }
 
         boolean takeWord(String text) {

@@ -3,14 +3,24 @@ import java.util.NoSuchElementException;
 /** What the tests share: telling texts to an object, and noting answers that are not the due ones. */
 final class Due {
     private static int wrong;
+    private static String name = "";
 
     private Due() {
     }
 
+    /** What is told ahead of each wrong answer from now on. */
+    static void name(String newName) {
+        name = newName;
+    }
+
+    static void wrong(String what) {
+        wrong++;
+        System.out.println(name + what);
+    }
+
     static void due(String call, long got, long want) {
         if (got != want) {
-            wrong++;
-            System.out.println(call + " answered " + got + ", due is " + want);
+            wrong(call + " answered " + got + ", due is " + want);
         }
     }
 
