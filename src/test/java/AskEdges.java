@@ -210,6 +210,7 @@ final class AskEdges {
         x = Due.told("mouth a nest high 1 takes 1 holds 40;mouth b nest high 2 takes 1 holds 40;rain 1;sounds tall=1 and wet<5 or (tall=2 and wet<4);");
         for (int i = 0; i < 3; i++) {
             Due.due("great(9)", x.great(9), 0);
+            Due.due("look() of 5 and 6", x.look(), 0);
             Due.due("look() of 5 and 6, asked again", x.look(), 0);
         }
         // The least: 5 of 10 ahead of 6 of 10, whichever way.
@@ -586,6 +587,11 @@ final class AskEdges {
         x.see(0, true);
         x.mark(0, true);
         Due.due("rains() of 1 and more, again", x.rains(), 1022);
+        x.mark(3, true);
+        x.see(0, true);
+        x.see(1, false);
+        x.mark(0, true);
+        Due.due("rains() of 1 and more, once more", x.rains(), 1022);
         Due.day(x, "clear a;stop a;stop b;pour a 20;pour b 20;minute;minute;");
         x.mark(2, false);
         Due.day(x, "clear b;clear b;pour b 1;pour b 1;pour b 1;minute;minute;minute;");

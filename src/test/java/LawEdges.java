@@ -99,6 +99,9 @@ final class LawEdges {
         is("9999", 9999);
         is("not 0", 1);
         is("(7)", 7);
+        by("(1 and 1)", 3);
+        by("(0 or 0)", 0);
+        by("(1<2 and 3=3)*(0 or 0<0)", 0);
         is("not 0*3", 3);
         is("not 0+1", 2);
         is("not 1<2", 1);
@@ -232,5 +235,11 @@ final class LawEdges {
         Due.frontFault(x, 0, "mouth a nest high 7 takes 3 holds 40;rain 2;");
         x.minute();
         Due.due("sounds() without a law", x.sounds(), 0);
+        // Nor is what a longer law had behind the end of this one.
+        for (String law : new String[] {"sounds not flow;", "sounds flow and not 0 or not 1;", "sounds flow;", "sounds 1;", "sounds 0;"}) {
+            Due.frontFault(x, 0, "mouth a nest high 7 takes 3 holds 40;rain 2;" + law);
+            x.minute();
+            Due.due("sounds() by " + law, x.sounds(), law.equals("sounds not flow;") || law.equals("sounds 1;") ? 1 : 0);
+        }
     }
 }

@@ -484,6 +484,8 @@ final class MinuteEdges {
         StoneReaders x = Due.told(PAIR);
         Due.day(x, "minute;minute;");
         Due.due("judged(1), the first", x.judged(1), 0);
+        Due.day(x, "minute;pour a 1;minute;pour a 1;minute;");
+        Due.due("judged(1), the first of three", x.judged(1), 0);
         Due.day(x, "stop a;stop a;clear n;minute;");
         Due.due("judged(1) counts lines that are left out", x.judged(1), 3);
         Due.day(x, "stop a;minute;minute;");

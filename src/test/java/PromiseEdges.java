@@ -637,7 +637,11 @@ final class PromiseEdges {
             Due.due("mark(" + i + ", false)", x.mark(i, false), true);
             Due.due("mark(" + i + ", true)", x.mark(i, true), true);
             Due.due("mark(" + i + ", true) again", x.mark(i, true), true);
+            x.minute();
             Due.due("mark(" + i + ", false) again", x.mark(i, false), true);
+            x.minute();
+            Due.due("mark(" + i + ", true) of the second time", x.mark(i, true), true);
+            Due.due("count(2)", x.count(2), i + 1);
         }
     }
 
@@ -664,19 +668,19 @@ final class PromiseEdges {
     }
 
     private static void countEach() {
-        StoneReaders x = Due.told("mouth a plain high 2 takes 2 holds 9;mouth n nest high 1 takes 1 holds 9;mouth b plain high 3 takes 0 holds 9;"
+        StoneReaders x = Due.told("mouth a plain high 2 takes 2 holds 9;mouth b plain high 3 takes 0 holds 9;mouth n nest high 1 takes 1 holds 9;"
                 + "letter l of a;letter m of a n;rain 4 1 7;");
         Due.day(x, "minute;minute;minute;minute;minute;");
         Due.word(x, "l l l l l l");
         x.see(0, true);
-        x.pour(2, 1);
+        x.pour(1, 1);
         x.minute();
         x.minute();
         x.see(1, false);
         x.see(2, false);
         Due.feed(x, "a tape");
         // a has 8 - 3 + 2 - 3, n 4 + 1; first a HOLE (a and b), then l.
-        int[] want = {3, 2, 2, 7, 9, 2, 2, 1, 5, 6, 3, 3, 6};
+        int[] want = {3, 2, 2, 7, 9, 4, 2, 1, 5, 6, 3, 3, 6};
         for (int what = 0; what <= 12; what++) {
             Due.due("count(" + what + ")", x.count(what), want[what]);
         }

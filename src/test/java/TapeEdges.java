@@ -252,6 +252,7 @@ final class TapeEdges {
 
     private static void howMany() {
         StoneReaders x = new StoneReaders();
+        Due.due("feed() of none at all", x.feed(0L, 0L, 0L), 0);
         Due.due("feed() of blanks", x.feed(0x2020L, 0x0aL, 0L), 3);
         Due.due("feed() of none", x.feed(0L, 0L, 0L), 3);
         Due.due("count(12)", x.count(12), 3);
