@@ -1135,7 +1135,7 @@ public final class StoneReaders {
     private static final class LawReader {
         private static final int DEEPEST = 5;
         // The levels of what joins, the loosest first.
-        private static final int AND_LEVEL = 0;
+        static final int AND_LEVEL = 0;
         private static final int TEST_LEVEL = 1;
         private static final int SUM_LEVEL = 2;
         private static final int PRODUCT_LEVEL = 3;
@@ -1146,15 +1146,8 @@ public final class StoneReaders {
             this.tape = tape;
         }
 
-        boolean readSounds(Law law) {
-            if (law.size > 0) {
-                return tape.fail(Tape.AGAIN);
-            }
-            tape.advance();
-            return readLevel(law, AND_LEVEL, 0);
-        }
-
-        private boolean readLevel(Law law, int level, int depth) {
+        /** A whole E is what AND_LEVEL joins. */
+        boolean readLevel(Law law, int level, int depth) {
             if (level > PRODUCT_LEVEL) {
                 return readPart(law, depth);
             }
@@ -1248,15 +1241,20 @@ public final class StoneReaders {
                 return readGutter(front);
             }
             if (tape.isWord("letter")) {
-                return readLetter(front);
+                return readLetterNamed(front) && readLetterMouths(front);
             }
             if (tape.isWord("rain")) {
                 return readRain(front);
             }
-            if (tape.isWord("sounds")) {
-                return lawReader.readSounds(front.law);
+            if (!tape.isWord("sounds")) {
+                return tape.fail(Tape.OUT_OF_PLACE);
             }
-            return tape.fail(Tape.OUT_OF_PLACE);
+            // Here and not in a function of its own, as calls go eight deep at most.
+            if (front.law.size > 0) {
+                return tape.fail(Tape.AGAIN);
+            }
+            tape.advance();
+            return lawReader.readLevel(front.law, LawReader.AND_LEVEL, 0);
         }
 
         private boolean readMouth(Front front) {
@@ -1333,7 +1331,8 @@ public final class StoneReaders {
             return true;
         }
 
-        private boolean readLetter(Front front) {
+        /** Up to its "of". */
+        private boolean readLetterNamed(Front front) {
             int letter = front.letters;
             if (letter >= MOST_LETTERS) {
                 return tape.fail(Tape.TOO_MANY);
@@ -1344,35 +1343,33 @@ public final class StoneReaders {
             }
             front.letterName[letter] = tape.name;
             tape.advance();
-            int bits = tape.takeWord("of") ? readMouthSet(front) : NONE;
-            if (bits == NONE) {
-                return false;
-            }
-            front.letterMouths[letter] = bits;
-            front.letters++;
-            return true;
+            return tape.takeWord("of");
         }
 
-        /** The MOUTHS up to the ; of a LETTER, as bits; NONE behind a FAULT. */
-        private int readMouthSet(Front front) {
+        /** Up to its ; which is still to be passed. */
+        private boolean readLetterMouths(Front front) {
             int bits = 0;
             for (int i = 0; i <= MOST_MOUTHS && (bits == 0 || !tape.isSign(';')); i++) {
                 int mouth = tape.mouthHere(front);
                 if (mouth == NONE) {
-                    return NONE;
+                    return false;
                 }
                 if ((bits >> mouth & 1) != 0) {
-                    tape.fail(Tape.AGAIN);
-                    return NONE;
+                    return tape.fail(Tape.AGAIN);
                 }
                 bits |= 1 << mouth;
                 tape.advance();
             }
             if (front.letterOf(bits) != NONE) {
-                tape.fail(Tape.AGAIN);
-                return NONE;
+                return tape.fail(Tape.AGAIN);
             }
-            return bits;
+            int letter = front.letters;
+            if (letter >= MOST_LETTERS) {
+                return tape.fail(Tape.TOO_MANY);
+            }
+            front.letterMouths[letter] = bits;
+            front.letters++;
+            return true;
         }
 
         private boolean readRain(Front front) {

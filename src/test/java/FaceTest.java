@@ -5,7 +5,9 @@ import java.lang.reflect.Modifier;
 import java.nio.file.Files;
 import java.nio.file.Path;
 import java.util.Arrays;
+import java.util.Map;
 import java.util.Set;
+import java.util.TreeMap;
 import java.util.TreeSet;
 import java.util.regex.Matcher;
 import java.util.regex.Pattern;
@@ -85,8 +87,10 @@ public final class FaceTest {
         Due.due("texts joined by +", count(code, "\"\\s*\\+|\\+\\s*\""), 0);
         Due.due("throws", count(code, "\\bthrow new NoSuchElementException\\(\\);"), count(code, "\\bthrow\\b"));
         // All rows are made in constructors, which are the only places without a type ahead of the name.
-        Matcher bodies = Pattern.compile("(?s)\n( {4}| {8})(?:public |private )?(?:static )?[\\w\\[\\]]+ \\w+\\([^)]*\\)[^;{]*\\{.*?\n\\1\\}").matcher(code);
+        Matcher bodies = Pattern.compile("(?s)\n( {4}| {8})(?:public |private )?(?:static )?[\\w\\[\\]]+ (\\w+)\\([^)]*\\)[^;{]*\\{(.*?)\n\\1\\}").matcher(code);
+        Map<String, String> byName = new TreeMap<>();
         while (bodies.find()) {
+            byName.merge(bodies.group(2), bodies.group(3), String::concat);
             String body = bodies.group();
             Due.due("lines of " + body.substring(0, Math.min(60, body.length())), body.split("\n").length <= 61, true);
             if (!body.contains(" StoneReaders()")) {
@@ -94,6 +98,39 @@ public final class FaceTest {
             }
         }
         Due.due("classes", count(code, "\\bclass\\b") <= 12, true);
+        depths(byName);
+    }
+
+    /** By names alone: methods of one name count as one that calls what any of them does. */
+    private static void depths(Map<String, String> bodyOf) {
+        Map<String, Set<String>> callsOf = new TreeMap<>();
+        for (String name : bodyOf.keySet()) {
+            Set<String> calls = callsOf.computeIfAbsent(name, n -> new TreeSet<>());
+            Matcher m = Pattern.compile("\\b(\\w+)\\(").matcher(bodyOf.get(name));
+            while (m.find()) {
+                if (bodyOf.containsKey(m.group(1))) {
+                    calls.add(m.group(1));
+                }
+            }
+        }
+        for (String name : bodyOf.keySet()) {
+            int depth = depth(name, callsOf, new TreeSet<>());
+            Due.due("calls go " + depth + " deep from " + name, depth <= 8, true);
+        }
+        Due.due("calls from front()", depth("front", callsOf, new TreeSet<>()) > 5, true);
+    }
+
+    /** The calls that can stand open at once, each of those that call one another counted once. */
+    private static int depth(String name, Map<String, Set<String>> callsOf, Set<String> open) {
+        int deepest = 0;
+        open.add(name);
+        for (String called : callsOf.get(name)) {
+            if (!open.contains(called)) {
+                deepest = Math.max(deepest, depth(called, callsOf, open));
+            }
+        }
+        open.remove(name);
+        return deepest + 1;
     }
 
     private static int count(String text, String pattern) {
